@@ -560,7 +560,8 @@ public final class MooringDesk {
         int one = isUp ? 1 : -1;
         work.copy(now);
         for (int times = 0; times < REPEATS; times++) {
-            int reason = crew.attempt(mooring, work, WIND, axis == 0 ? one : 0, axis == 1 ? one : 0, axis == 2 ? one : 0);
+            int reason = crew.attempt(mooring, work, WIND, axis == 0 ? one : 0, axis == 1 ? one : 0,
+                    axis == 2 ? one : 0);
             if (reason != SETTLED || crew.broke != 0 || work.taut != now.taut) {
                 return times;
             }
@@ -746,7 +747,8 @@ public final class MooringDesk {
 
     /** The bytes that came. */
     private static final class Tape {
-        private final byte[] bytes = new byte[TAPE_BYTES];
+        final byte[] bytes = new byte[TAPE_BYTES];
+        // At most as many as there are bytes above.
         int length = 0;
 
         static int bytesIn(int number) {
@@ -768,10 +770,6 @@ public final class MooringDesk {
                 }
             }
         }
-
-        int byteAt(int i) {
-            return i >= 0 && i < length && i < TAPE_BYTES ? bytes[i] & 255 : NONE;
-        }
     }
 
     /** Reads a tape; where reading fails, at is left on the fault. */
@@ -785,54 +783,58 @@ public final class MooringDesk {
             this.tape = tape;
         }
 
+        /** The byte that is next, or NONE at the end. */
         private int sign() {
-            return tape.byteAt(at);
+            return at >= 0 && at < tape.length ? tape.bytes[at] & 255 : NONE;
         }
 
-        private int signBehindBlanks() {
-            for (int i = 0; i < TAPE_BYTES && sign() == ' '; i++) {
+        private void skipBlanks() {
+            while (at >= 0 && at < tape.length && tape.bytes[at] == ' ') {
                 at++;
             }
-            return sign();
         }
 
         private boolean readSign(int wanted) {
-            if (signBehindBlanks() != wanted) {
+            skipBlanks();
+            if (sign() != wanted) {
                 return false;
             }
             at++;
             return true;
         }
 
-        private boolean isAtDigit() {
-            return isWithin(sign(), '0', '9');
-        }
-
         private boolean readDigit() {
-            signBehindBlanks();
-            if (!isAtDigit()) {
+            skipBlanks();
+            int sign = sign();
+            if (sign < '0' || sign > '9') {
                 return false;
             }
-            number = sign() - '0';
+            number = sign - '0';
             at++;
             return true;
         }
 
         private boolean readNumber(int least, int most) {
-            boolean isBelow = readSign('-');
-            if (!isAtDigit()) {
-                return false;
+            skipBlanks();
+            int sign = sign();
+            boolean isBelow = sign == '-';
+            if (isBelow) {
+                at++;
+                sign = sign();
             }
             int value = 0;
-            for (int digits = 0; digits < 3 && isAtDigit(); digits++) {
-                value = 10 * value + sign() - '0';
+            int digits = 0;
+            while (digits < 3 && sign >= '0' && sign <= '9') {
+                value = 10 * value + sign - '0';
+                digits++;
                 at++;
+                sign = sign();
             }
-            if (isAtDigit()) {
+            if (digits == 0 || sign >= '0' && sign <= '9') {
                 return false;
             }
             number = isBelow ? -value : value;
-            if (!isWithin(number, least, most)) {
+            if (number < least || number > most) {
                 at--;
                 return false;
             }
@@ -848,7 +850,8 @@ public final class MooringDesk {
                 if (!readClause(mooring)) {
                     return at;
                 }
-                if (signBehindBlanks() == NONE) {
+                skipBlanks();
+                if (sign() == NONE) {
                     return finish(mooring);
                 }
                 at++;
@@ -865,7 +868,8 @@ public final class MooringDesk {
         }
 
         private boolean readClause(Mooring mooring) {
-            int letter = signBehindBlanks();
+            skipBlanks();
+            int letter = sign();
             if (letter == 's' && !hasRules) {
                 at++;
                 hasRules = true;
@@ -883,7 +887,8 @@ public final class MooringDesk {
         private boolean readItems(char[] letters, int[] least, int[] most, int[] items, int first) {
             int seen = 0;
             for (int i = 0; i <= letters.length; i++) {
-                int letter = signBehindBlanks();
+                skipBlanks();
+                int letter = sign();
                 if (letter == NONE || letter == ';') {
                     return true;
                 }
@@ -919,7 +924,8 @@ public final class MooringDesk {
                     return at;
                 }
                 script.steps = i + 1;
-                if (signBehindBlanks() == NONE) {
+                skipBlanks();
+                if (sign() == NONE) {
                     return NONE;
                 }
                 if (sign() != ';' || i == MOST_STEPS - 1) {
@@ -931,7 +937,8 @@ public final class MooringDesk {
         }
 
         private boolean readStep(Script script, int i) {
-            int letter = signBehindBlanks();
+            skipBlanks();
+            int letter = sign();
             if (letter != 'w' && letter != 'h' && letter != 'c' && letter != 'n') {
                 return false;
             }
@@ -1133,23 +1140,26 @@ public final class MooringDesk {
                     addRope(mooring, hold, rope);
                 }
             }
-            lower = 0;
+            lower = matrix[0] * cofactor(0, 0) + matrix[1] * cofactor(0, 1) + matrix[2] * cofactor(0, 2);
+            if (lower <= 0) {
+                return false;
+            }
             for (int i = 0; i < AXES; i++) {
-                lower += matrix[i] * cofactor(0, i);
                 shifted[i] = 0;
                 for (int j = 0; j < AXES; j++) {
                     shifted[i] += cofactor(i, j) * forces[j];
                 }
             }
             putPulls(mooring, hold);
-            return lower > 0;
+            return true;
         }
 
         private void begin(Mooring mooring, Hold hold) {
-            Arrays.fill(matrix, 0);
             for (int i = 0; i < AXES; i++) {
-                // An axis that is not free gets the row "its shift is 0", so that one formula serves all.
-                matrix[AXES * i + i] = mooring.isFree[i] ? 0 : 1;
+                for (int j = 0; j < AXES; j++) {
+                    // An axis that is not free gets the row "its shift is 0", so that one formula serves all.
+                    matrix[AXES * i + j] = i == j && !mooring.isFree[i] ? 1 : 0;
+                }
                 forces[i] = mooring.isFree[i] ? hold.wind[i] : 0;
             }
         }
