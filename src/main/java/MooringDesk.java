@@ -264,7 +264,7 @@ public final class MooringDesk {
         if (!hasMooring()) {
             return NONE;
         }
-        return solved().mostLoaded(mooring, now.taut);
+        return solved().mostLoaded(mooring, now.taut, 1);
     }
 
     public long uneven(int what) {
@@ -276,8 +276,8 @@ public final class MooringDesk {
     }
 
     private void putUneven(Balance balance) {
-        int most = balance.mostLoaded(mooring, now.taut);
-        int least = balance.leastLoaded(mooring, now.taut);
+        int most = balance.mostLoaded(mooring, now.taut, 1);
+        int least = balance.mostLoaded(mooring, now.taut, -1);
         if (most == NONE || least == NONE) {
             fraction.put(0, 1);
             return;
@@ -317,9 +317,9 @@ public final class MooringDesk {
             case 3:
                 return now.cast;
             case 4:
-                return solved().mostPulled(now.taut);
+                return solved().mostPulled(now.taut, 1);
             case 5:
-                return solved().leastPulled(now.taut);
+                return solved().mostPulled(now.taut, -1);
             case 6:
                 return mooring.stiffnessOf(now.taut);
             case 7:
@@ -598,7 +598,7 @@ public final class MooringDesk {
         if (crew.attempt(mooring, work, WINCH, rope, turn, 0) != SETTLED || crew.broke != 0) {
             return false;
         }
-        int worst = crew.balance.mostLoaded(mooring, work.taut);
+        int worst = crew.balance.mostLoaded(mooring, work.taut, 1);
         if (worst == NONE) {
             return false;
         }
@@ -1208,43 +1208,24 @@ public final class MooringDesk {
             return sum;
         }
 
-        int mostPulled(int set) {
+        /** The rope of a set with the greatest pull, with a sign of -1 that with the least; of several the lowest. */
+        int mostPulled(int set, int sign) {
             int found = NONE;
             for (int rope = 0; rope < MOST_ROPES; rope++) {
-                if ((set >> rope & 1) != 0 && (found == NONE || pulls[rope] > pulls[found])) {
+                if ((set >> rope & 1) != 0 && (found == NONE || sign * pulls[rope] > sign * pulls[found])) {
                     found = rope;
                 }
             }
             return found;
         }
 
-        int leastPulled(int set) {
-            int found = NONE;
-            for (int rope = 0; rope < MOST_ROPES; rope++) {
-                if ((set >> rope & 1) != 0 && (found == NONE || pulls[rope] < pulls[found])) {
-                    found = rope;
-                }
-            }
-            return found;
-        }
-
-        // A pull's upper number stays under 2 to the 50, so that times a strength it fits a long.
-        int mostLoaded(Mooring mooring, int set) {
+        /** Likewise by load. A pull's upper number stays under 2 to the 50, so that times a strength it fits a long. */
+        int mostLoaded(Mooring mooring, int set, int sign) {
             int found = NONE;
             for (int rope = 0; rope < MOST_ROPES; rope++) {
                 if ((set >> rope & 1) != 0 && (found == NONE
-                        || pulls[rope] * mooring.strength[found] > pulls[found] * mooring.strength[rope])) {
-                    found = rope;
-                }
-            }
-            return found;
-        }
-
-        int leastLoaded(Mooring mooring, int set) {
-            int found = NONE;
-            for (int rope = 0; rope < MOST_ROPES; rope++) {
-                if ((set >> rope & 1) != 0 && (found == NONE
-                        || pulls[rope] * mooring.strength[found] < pulls[found] * mooring.strength[rope])) {
+                        || sign * pulls[rope] * mooring.strength[found]
+                        > sign * pulls[found] * mooring.strength[rope])) {
                     found = rope;
                 }
             }
@@ -1367,11 +1348,11 @@ public final class MooringDesk {
 
         /** The set without the rope that would push most, or else with the one that would pull most. */
         private int nextSet(Mooring mooring, Hold hold) {
-            int leaver = balance.leastPulled(hold.taut);
+            int leaver = balance.mostPulled(hold.taut, -1);
             if (leaver != NONE && balance.pulls[leaver] < 0) {
                 return hold.taut & ~(1 << leaver);
             }
-            int joiner = balance.mostPulled(hold.slackOf(mooring));
+            int joiner = balance.mostPulled(hold.slackOf(mooring), 1);
             if (joiner != NONE && balance.pulls[joiner] > 0) {
                 return hold.taut | 1 << joiner;
             }
@@ -1379,7 +1360,7 @@ public final class MooringDesk {
         }
 
         private boolean breakWorst(Mooring mooring, Hold hold) {
-            int worst = balance.mostLoaded(mooring, hold.taut);
+            int worst = balance.mostLoaded(mooring, hold.taut, 1);
             if (worst == NONE || brokenCount >= MOST_ROPES
                     || balance.pulls[worst] <= mooring.strength[worst] * balance.lower) {
                 return false;
