@@ -12,6 +12,8 @@ public final class ActTest {
         castAndRenew();
         adrift();
         roundForEver();
+        notRoundBehindABreak();
+        laidBounds();
         firstReason();
         undo();
         undoForty();
@@ -200,6 +202,30 @@ public final class ActTest {
         Check.due("by the step's reason", desk.perform(0), -1);
         causes(desk, 1000, 102, 0);
         statuses(desk, 1, 0, 0, 0, 2);
+    }
+
+    private static void notRoundBehindABreak() {
+        // Behind a break it may go by a set again that it went by ahead of it.
+        MooringDesk desk = new MooringDesk();
+        Check.due("as it is told", Check.tell(desk, 0, "sf1;rk9p25t34;rk3a-1p-36t7;rk4a-1p-1t29;ra2p36t25;rk9p21;rk2p31"), 6);
+        desk = Check.moored("sf1;rk7a-1p-27t9;rk6p34t22;rk7a-1p-8;rk3a4p14;rk7a4p-10t55");
+        Check.due("by wind", desk.wind(37, 0, 0), 1);
+        statuses(desk, 0, 0, 0, 0, 0);
+    }
+
+    private static void laidBounds() {
+        MooringDesk desk = Check.moored("sf1;rp50;ra-1;rp-50");
+        for (int i = 0; i < 105; i++) {
+            desk.winch(0, 9);
+            desk.winch(2, -9);
+        }
+        Check.due("999", desk.winch(0, 4), 0);
+        Check.due("-999", desk.winch(2, -4), 0);
+        Check.due("p", desk.rope(0, 7), 999);
+        Check.due("p", desk.rope(2, 7), -999);
+        Check.due("1,000", desk.winch(0, 1), -1);
+        Check.due("-1,000", desk.winch(2, -1), -1);
+        statuses(desk, 0, 2, 0, 0, 0);
     }
 
     private static void firstReason() {

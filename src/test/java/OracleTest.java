@@ -27,12 +27,19 @@ public final class OracleTest {
             + "rk8x-1y3a-4b-4p16;rk8x2y-3a3b4p-45t62",
         "sf7;rk4x-2y3a4b1p-11t93;rk6x1y-3a2b3p-33t91;rk6x-4y4a-2b4p-46t89;rk7x1y2a3b-1p-38;rk6x-2y-3a-1b-1p22;"
             + "rk2x-2y3a0b1p-3;rk9y-4a2b4p-34"};
+    // Moorings with rare ways: by a break it goes by a set once more that it went by ahead of it (as it is told, or by
+    // a wind of 37); a rope is taken and breaks at once, and those that are taut stay the same.
+    private static final String[] RARE = {"sf1;rk9p25t34;rk3a-1p-36t7;rk4a-1p-1t29;ra2p36t25;rk9p21;rk2p31",
+        "sf1;rk7a-1p-27t9;rk6p34t22;rk7a-1p-8;rk3a4p14;rk7a4p-10t55", "sf3;rk3p34;rk8p47t1;rk3a0b2p-14t51;rk7a-2b1p-32t20"};
     private static final int[][] ROUND_TURNS = {{0, 9}, {2, -5}, {0, 4}};
 
     public static void main(String[] args) {
         int runs = args.length > 0 ? Integer.parseInt(args[0]) : 150;
         for (int i = 0; i < ROUNDS.length; i++) {
             new OracleTest(-1 - i).goRound(ROUNDS[i], ROUND_TURNS[i]);
+        }
+        for (int i = 0; i < RARE.length; i++) {
+            new OracleTest(-11 - i).goRare(RARE[i]);
         }
         for (int run = 0; run < runs; run++) {
             new OracleTest(run).go();
@@ -83,6 +90,16 @@ public final class OracleTest {
             ask();
         }
         SEEN[4] += oracle.status[4];
+    }
+
+    private void goRare(String text) {
+        due("text " + text, Check.tell(desk, 0, text), oracle.tellMooring(Oracle.freeOf(text), new int[3], Oracle.ropesOf(text)));
+        for (int axis = 0; axis < 3; axis++) {
+            due("range up " + axis, desk.range(axis, true), oracle.range(axis, true));
+            due("range down " + axis, desk.range(axis, false), oracle.range(axis, false));
+        }
+        due("wind", desk.wind(37, 0, 0), oracle.byHand(0, 37, 0, 0, true));
+        askAll();
     }
 
     private void due(String what, long got, long want) {

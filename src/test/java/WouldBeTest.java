@@ -143,6 +143,8 @@ public final class WouldBeTest {
         Check.due("999 across", desk.range(1, true), 39);
         Check.due("down", desk.range(1, false), 60);
         Check.due("round", desk.range(2, false), 60);
+        Check.due("by the ninth a slack rope is taken and breaks, the taut ones stay",
+            Check.moored("sf3;rk3p34;rk8p47t1;rk3a0b2p-14t51;rk7a-2b1p-32t20").range(1, false), 8);
         Check.due("no such axis", desk.range(3, true), -1);
         Check.due("no such axis", desk.range(-1, true), -1);
     }
