@@ -41,6 +41,15 @@ public final class OracleTest {
         for (int i = 0; i < RARE.length; i++) {
             new OracleTest(-11 - i).goRare(RARE[i]);
         }
+        for (String[] round : Rounds.ACTS) {
+            new OracleTest(-21).goSteps(round);
+        }
+        for (String[] round : Rounds.BEHIND_A_BREAK) {
+            new OracleTest(-22).goSteps(round);
+        }
+        for (String text : Rounds.TEXTS) {
+            new OracleTest(-23).goSteps(new String[] {text});
+        }
         for (int run = 0; run < runs; run++) {
             new OracleTest(run).go();
         }
@@ -90,6 +99,22 @@ public final class OracleTest {
             ask();
         }
         SEEN[4] += oracle.status[4];
+    }
+
+    private void goSteps(String[] round) {
+        due("text", Check.tell(desk, 0, round[0]), oracle.tellMooring(Oracle.freeOf(round[0]), new int[3], Oracle.ropesOf(round[0])));
+        for (int i = 1; i < round.length; i++) {
+            int[] parts = new int[3];
+            String[] told = round[i].substring(1).split("[,:]");
+            for (int j = 0; j < told.length; j++) {
+                parts[j] = Integer.parseInt(told[j]);
+            }
+            int sort = "whcn".indexOf(round[i].charAt(0));
+            due(round[i], Rounds.act(desk, round[i]), oracle.byHand(sort, parts[0], parts[1], parts[2], true));
+            causes();
+        }
+        due("round for ever", oracle.status[4], round.length > 1 ? 1 : 0);
+        askAll();
     }
 
     private void goRare(String text) {
