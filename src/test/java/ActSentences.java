@@ -29,7 +29,7 @@ final class ActSentences {
         return Check.moored("sf1;rp5;ra-1p5");
     }
 
-    /** As the last but one: the wind stands n short of the bound on an axis. */
+    /** The wind on one axis is brought as far as this. */
     private static MooringDesk windAt(int axis, int value) {
         MooringDesk desk = pair();
         int most = axis == 2 ? 999 : 99;

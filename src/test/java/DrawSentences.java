@@ -60,7 +60,6 @@ final class DrawSentences {
         for (int n : new int[] {Integer.MIN_VALUE, -1, 0, 41, Integer.MAX_VALUE}) {
             Doc.due("n " + n, Check.moored(TEXT).years(n, 1), -1);
         }
-        // Each of forty winds across comes: nothing can stop it, so that one act is one draw of a sort below 5.
         for (int n : new int[] {1, 2, 39, 40}) {
             MooringDesk desk = Check.moored("sf1;rp50;ra-1p50");
             MooringDesk other = Check.moored("sf1;rp50;ra-1p50");

@@ -135,7 +135,7 @@ final class WouldBeSentences {
         Doc.due("both break, and it is adrift", desk.stand(3, 0, 0, 1), -1);
         Doc.due("it would push", desk.stand(-1, 0, 0, 0), 0);
         Doc.due("it would push", desk.stand(-1, 0, 0, 1), -1);
-        // Behind nine times the next one goes round for ever.
+        // The very first one goes round for ever.
         desk = Rounds.ahead(Rounds.ACTS[0]);
         Doc.due("round for ever", desk.stand(4, 1, -5, 0), 0);
         Doc.due("round for ever", desk.stand(4, 1, -5, 1), -1);
@@ -297,7 +297,7 @@ final class WouldBeSentences {
         trimmed(slack, 1, -1, 0, 0, 1);
         trimmed(Check.moored("sf1u5;ra-1t1;ra-1;r"), 2, 1, -2, 5, 999);
         Doc.says(0, "by which it SETTLES and none BREAKS");
-        // Each turn breaks a rope, or lets go of what holds it.
+        // Taken in by 1 rope 0 breaks, and nothing holds it; let out by 1 it has 13 by 14. Then: each turn breaks a rope.
         trimmed(Check.moored("sf1u-4;rp5t7;ra-1p5t3"), 1, 0, -1, 13, 14);
         trimmed(Check.moored("sf1u20;ra-1t10;ra-1t10"), 1, -1, 0, 0, 1);
         Doc.says(0, "that whose greatest LOAD is least (of several the lowest ROPE, then the least turn).");
